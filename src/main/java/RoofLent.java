@@ -185,9 +185,7 @@ public final class RoofLent {
             return STATE;
         }
         now.startWith(aside);
-        for (Story story : kept) {
-            story.forget();
-        }
+        forgetKept();
         return aside.towerCount();
     }
 
@@ -672,8 +670,8 @@ public final class RoofLent {
             h = 31 * h + count(what);
         }
         h = digestHouses(h);
-        for (Story story : kept) {
-            h = 31 * h + story.deeds;
+        for (int k = 0; k < KEPT_ROCKS; k++) {
+            h = 31 * h + deedsKeptIn(k);
         }
         h = rows.digestAll(h);
         return texts.digestAll(h);
@@ -815,14 +813,28 @@ public final class RoofLent {
         return k >= 0 && k < kept.length ? kept[k] : null;
     }
 
+    private int deedsKeptIn(int k) {
+        Story story = keptAt(k);
+        return story == null ? MISSING : story.deeds;
+    }
+
     private int keptCount() {
         int count = 0;
-        for (Story story : kept) {
-            if (story.isThere()) {
+        for (int k = 0; k < KEPT_ROCKS; k++) {
+            if (deedsKeptIn(k) != MISSING) {
                 count++;
             }
         }
         return count;
+    }
+
+    private void forgetKept() {
+        for (int k = 0; k < KEPT_ROCKS; k++) {
+            Story story = keptAt(k);
+            if (story != null) {
+                story.forget();
+            }
+        }
     }
 
     /** All lamps that are owed on a rock; NONE, where something SWAYS. */

@@ -153,6 +153,7 @@ public final class AsideTest {
         relief("rh9m9", 0, 0);
         relief("rh9 rh9 rh9", 0, 1);
         relief("rm9h9 r rh9h9", 1, 2);
+        relief("rm9a9m9 r rm9m9l9m9g9m9", 0, -1);
     }
 
     private static void high(String rock, int t, int v, int want) {

@@ -6,6 +6,7 @@ public final class RocksTest {
     public static void main(String[] args) {
         promise10();
         promise10Full();
+        promise10Signs();
         promise11();
         promise12();
         promise13();
@@ -87,6 +88,21 @@ public final class RocksTest {
         faultOf("rh1h1h1h1h1h1rh1h1h1h1h1h1rh1", 27);
         faultOf("rh1h1h1rh1h1h1rh1h1h1rh1h1h1rg1", 29);
         faultOf("rh1h1h1rh1h1h1rh1h1h1rh1h1h1h1", 28);
+    }
+
+    /** Each sign there is ahead of all TOWERS, as a letter, as a figure, behind a HOUSE. */
+    private static void promise10Signs() {
+        for (char sign = 0; sign < 256; sign++) {
+            boolean isLetter = "hglaem".indexOf(sign) >= 0;
+            boolean isFigure = "0123456789".indexOf(sign) >= 0;
+            boolean isBetween = sign == ' ' || sign == 'r';
+            faultOf("" + sign, sign == 'r' ? Check.NONE : sign == ' ' ? 1 : 0);
+            faultOf("r" + sign, isBetween ? Check.NONE : isLetter ? 2 : 1);
+            faultOf("r" + sign + "5", isLetter ? Check.NONE : isBetween ? 2 : 1);
+            faultOf("rh" + sign, isFigure ? Check.NONE : 2);
+            faultOf("rh" + sign + "h5", isFigure ? Check.NONE : 2);
+            faultOf("rh5" + sign, isBetween ? Check.NONE : isLetter ? 4 : 3);
+        }
     }
 
     private static void promise11() {
