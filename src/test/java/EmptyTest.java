@@ -88,10 +88,8 @@ public final class EmptyTest {
     }
 
     private static void noHouses() {
-        RoofLent x = on("rrrrr");
-        x.row(0, 0);
-        x.row(1, 1);
         for (int each = 0; each < 5; each++) {
+            RoofLent x = on("rrrrr");
             int t = each;
             c.due("tower(" + t + ")", x.tower(t), 0);
             c.refusal(x, "house(t, 0, 0)", () -> x.house(t, 0, 0), BEYOND);
@@ -104,6 +102,9 @@ public final class EmptyTest {
             c.refusal(x, "odds(t, 0)", () -> x.odds(t, 0), BEYOND);
             c.due("high(t, 9)", x.high(t, 9), 5);
         }
+        RoofLent x = on("rrrrr");
+        x.row(0, 0);
+        x.row(1, 1);
         c.refusal(x, "owes(0, 1)", () -> x.owes(0, 1), BAD);
         c.refusal(x, "debt(0)", () -> x.debt(0), BAD);
         c.refusal(x, "fog(1)", () -> x.fog(1), SIZE);
@@ -190,9 +191,9 @@ public final class EmptyTest {
     }
 
     private static void missingRow() {
-        RoofLent x = on("rh9");
-        x.row(0, 1);
         for (int each = 1; each < 6; each++) {
+            RoofLent x = on("rh9");
+            x.row(0, 1);
             int r = each;
             c.refusal(x, "lay(r, 0, 1)", () -> x.lay(r, 0, 1), NOTHING);
             c.refusal(x, "at(r, 0)", () -> x.at(r, 0), NOTHING);
@@ -203,9 +204,10 @@ public final class EmptyTest {
             c.refusal(x, "mean(r)", () -> x.mean(r), NOTHING);
             c.refusal(x, "fog(r)", () -> x.fog(r), NOTHING);
             c.refusal(x, "kinds(0, 0, r)", () -> x.kinds(0, 0, r), NOTHING);
+            c.due("count(6)", x.count(6), 1);
         }
-        c.due("count(6)", x.count(6), 1);
-        x.lay(0, 0, 5);
+        RoofLent x = on("rh9");
+        Check.fill(x, 0, 5);
         c.due("tear(0)", x.tear(0), 1);
         c.refusal(x, "tear(0) again", () -> x.tear(0), NOTHING);
         c.due("row(0, 1) anew", x.row(0, 1), 1);

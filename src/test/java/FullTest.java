@@ -7,9 +7,11 @@ public final class FullTest {
 
     public static void main(String[] args) {
         fullRows();
+        beyondFullRows();
         fullRowCopied();
         rowAnew();
         fullTexts();
+        beyondFullTexts();
         faultsAtTheEnd();
         fullRocks();
         seventhHouse();
@@ -41,20 +43,30 @@ public final class FullTest {
         }
         for (int r = 0; r < 6; r++) {
             for (int i = 0; i < 40; i++) {
-                c.told(x, "lay(r, i)", x.lay(r, i, 100 * r + i), 1, 0);
+                c.due("lay(r, i)", x.lay(r, i, 100 * r + i), 1);
             }
-            int row = r;
-            c.refusal(x, "lay(r, 40)", () -> x.lay(row, 40, 9), BEYOND);
-            c.refusal(x, "at(r, 40)", () -> x.at(row, 40), BEYOND);
         }
         for (int r = 0; r < 6; r++) {
-            for (int i = 0; i < 40; i++) {
+            for (int i = r % 3; i < 40; i += 3) {
                 c.told(x, "at(r, i)", x.at(r, i), 1, 100 * r + i);
             }
             // 0 to 39 come to 780, by 40 to 19 and a half.
             c.told(x, "mean(r)", x.mean(r), 1, 100 * r + 19);
         }
         c.due("count(6)", x.count(6), 6);
+    }
+
+    private static void beyondFullRows() {
+        RoofLent x = new RoofLent();
+        for (int each = 0; each < 6; each++) {
+            int r = each;
+            x.row(r, 40);
+            c.told(x, "lay(r, 39, 7)", x.lay(r, 39, 7), 1, 0);
+            c.refusal(x, "lay(r, 40)", () -> x.lay(r, 40, 9), BEYOND);
+            c.refusal(x, "at(r, 40)", () -> x.at(r, 40), BEYOND);
+            c.refusal(x, "row(r, 41)", () -> x.row(r, 41), Check.BAD);
+            c.told(x, "at(r, 39)", x.at(r, 39), 1, 7);
+        }
     }
 
     private static void fullRowCopied() {
@@ -105,8 +117,6 @@ public final class FullTest {
             for (int i = 0; i < 60; i++) {
                 c.due("put(t, i)", x.put(t, i, 60 * t - i), 1032);
             }
-            int text = t;
-            c.refusal(x, "put(t, 60)", () -> x.put(text, 60, 1), BEYOND);
         }
         for (int t = 0; t < 4; t++) {
             for (int i = 0; i < 60; i++) {
@@ -114,6 +124,18 @@ public final class FullTest {
             }
         }
         c.due("count(7)", x.count(7), 4);
+    }
+
+    private static void beyondFullTexts() {
+        RoofLent x = new RoofLent();
+        for (int each = 0; each < 4; each++) {
+            int t = each;
+            x.text(t, 60);
+            c.due("put(t, 59, 7)", x.put(t, 59, 7), 1032);
+            c.refusal(x, "put(t, 60, 1)", () -> x.put(t, 60, 1), BEYOND);
+            c.refusal(x, "text(t, 61)", () -> x.text(t, 61), Check.BAD);
+            c.due("put(t, 59, 8)", x.put(t, 59, 8), 1007);
+        }
     }
 
     private static void faultOf(String signs, int want) {

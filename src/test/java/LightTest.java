@@ -170,6 +170,12 @@ public final class LightTest {
         settles("rh9h9", 1, -1, 1);
         settles("rh9h9 r r r rh9h9", 2);
         settles("rh9 ra9h9 re9", 1, 0, -3, 3, 0);
+        // 3 and -3, 4 and both -2: were the most handed to who is owed most, it would take 4.
+        settles("rg9h9 ra9g9l9", 3, -2, 3, -3, -2, 4);
+        // 4 and one of the -4, 3 and 3 and -6, 5 and -4 and -1.
+        settles("ra9m9 ra9m9h9 ra9a9m9", 5, -4, 3, -6, 5, 4, -4, -1, 3);
+        settles("ra9 rh9g9m9l9l9 r rh9g9 rh9l9m9a9", 6, -1, -1, -2, 2, 3, 2, -2, -3, -2, 2, 1, 1);
+        settles("rh9a9a9 rg9l9m9 rg9m9 rg9 rm9m9a9", 9, 1, -3, 2, -5, 2, 6, -5, 2, -4, 2, 1, 1);
     }
 
     private static void promise34() {

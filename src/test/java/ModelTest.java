@@ -2,7 +2,9 @@ import java.util.Random;
 
 /** Runs of calls by lots: the class answers each as the model does. The seeds are fixed, so each run is the same. */
 public final class ModelTest {
-    private static final int RUNS = 260, CALLS = 180;
+    private static final int RUNS = 800;
+    // An object is used for 512 calls at most; what one turn makes of them stays below the rest.
+    private static final int LAST_TURN = 512 - 100;
     private static final int[] ODD = {-1, -2, 4, 5, 6, 7, 9, 10, 12, 13, 31, 40, 41, 60, 61, Integer.MAX_VALUE, Integer.MIN_VALUE};
     private static final String LETTERS = "hhglaem";
     private static final Check c = new Check();
@@ -10,7 +12,8 @@ public final class ModelTest {
     private final Random lot;
     private final RoofLent x = new RoofLent();
     private final Model m = new Model();
-    private int run;
+    private final int run;
+    private int calls = 0;
 
     private ModelTest(int seed) {
         lot = new Random(seed);
@@ -25,12 +28,16 @@ public final class ModelTest {
     }
 
     private void all() {
+        // In some runs there are DEEDS above all, so that there come to be 40.
+        boolean isBusy = run % 4 == 0;
         write(0, someRock());
         same("rock", x.rock(0), m.rock(0));
-        for (int i = 0; i < CALLS; i++) {
+        while (calls < LAST_TURN) {
             if (lot.nextInt(60) == 0) {
                 write(lot.nextInt(4), lot.nextInt(3) == 0 ? someText() : someRock());
                 same("rock", x.rock(0), m.rock(0));
+            } else if (isBusy) {
+                rocks(lot.nextInt(6) == 0 ? 13 + lot.nextInt(4) : 8 + lot.nextInt(5));
             } else if (lot.nextInt(8) == 0) {
                 layLight();
             } else if (lot.nextInt(3) == 0) {
@@ -46,15 +53,16 @@ public final class ModelTest {
     }
 
     private void same(String call, long got, long want) {
+        calls++;
         c.due("run " + run + ", " + call, got, want);
     }
 
     private void told() {
         same("asked", x.asked(), m.asked());
-        same("upper", x.upper(), m.upper());
-        same("lower", x.lower(), m.lower());
-        same("finding", x.finding(), m.finding());
         if (lot.nextInt(4) == 0) {
+            same("upper", x.upper(), m.upper());
+            same("lower", x.lower(), m.lower());
+            same("finding", x.finding(), m.finding());
             same("digest", x.digest(), m.digest());
         }
     }
@@ -129,7 +137,7 @@ public final class ModelTest {
             for (int s = 0; s < m.tower(t); s++) {
                 int seen = m.sees(t, s);
                 int light = Math.min(5, Integer.bitCount(seen & ~fog) + m.asked());
-                x.sees(t, s);
+                same("sees", x.sees(t, s), seen);
                 light += lot.nextInt(60) == 0 ? 1 : 0;
                 same("lay", x.lay(r, i, light), m.lay(r, i, light));
                 i++;

@@ -1,3 +1,5 @@
+import java.util.function.Consumer;
+import java.util.function.Supplier;
 import java.util.function.ToIntFunction;
 
 /**
@@ -11,22 +13,46 @@ public final class RefusedTest {
     private static final int NOUGHT = Check.NOUGHT, SIZE = Check.SIZE;
     private static final Check c = new Check();
 
+    /** Who is asked: for each call a new object, or one for all. */
+    private interface Asker {
+        void refuses(String call, ToIntFunction<RoofLent> run, int want);
+    }
+
     public static void main(String[] args) {
-        rows(new RoofLent(), rich(), c);
-        copies(rich(), c);
-        texts(new RoofLent(), rich(), c);
-        rocks(new RoofLent(), rich(), c);
-        places(rich(), c);
-        deeds(rich(), c);
+        Asker n = anew(RoofLent::new);
+        Asker x = anew(RefusedTest::rich);
+        all(n, x);
+        fortyDeeds(anew(RefusedTest::forty));
         fullTowers();
-        questions(new RoofLent(), rich(), c);
-        kinds(rich(), c);
         kindsOfAnotherSize();
-        lots(new RoofLent(), rich(), c);
-        twins("with 38 DEEDS", RefusedTest::rich);
-        twins("without TOWERS", RoofLent::new);
+        twins("with 38 DEEDS", RefusedTest::rich, y -> all((call, run, want) -> { }, oneForAll(y)));
+        twins("with 40 DEEDS", RefusedTest::forty, y -> fortyDeeds(oneForAll(y)));
+        twins("without TOWERS", RoofLent::new, y -> all(oneForAll(y), oneForAll(y)));
         neverTold();
         c.end();
+    }
+
+    private static void all(Asker n, Asker x) {
+        rows(n, x);
+        copies(x);
+        texts(n, x);
+        rocks(n, x);
+        places(x);
+        deeds(x);
+        questions(n, x);
+        kinds(x);
+        lots(n, x);
+    }
+
+    private static Asker anew(Supplier<RoofLent> make) {
+        return (call, run, want) -> {
+            RoofLent x = make.get();
+            c.refusal(x, call, () -> run.applyAsInt(x), want);
+        };
+    }
+
+    private static Asker oneForAll(RoofLent x) {
+        return (call, run, want) -> run.applyAsInt(x);
     }
 
     /** 38 DEEDS, 10 HOUSES, ROWS 0 (of 2), 1 (of 0), 2 (of 10), TEXTS 0 (a FAULT), 1 (a ROCK), a ROCK kept in 0. */
@@ -51,128 +77,137 @@ public final class RefusedTest {
         return x;
     }
 
-    private static void rows(RoofLent n, RoofLent x, Check c) {
-        c.refusal(x, "row(-1, -1)", () -> x.row(-1, -1), BAD);
-        c.refusal(x, "row(6, MIN)", () -> x.row(6, MIN), BAD);
-        c.refusal(x, "row(0, -1)", () -> x.row(0, -1), SIZE);
-        c.refusal(x, "row(0, 41)", () -> x.row(0, 41), BAD);
-        c.refusal(x, "row(3, -1), of one that is missing", () -> x.row(3, -1), SIZE);
-        c.refusal(x, "lay(-1, -1, 0)", () -> x.lay(-1, -1, 0), BAD);
-        c.refusal(x, "lay(6, 40, 0)", () -> x.lay(6, 40, 0), BAD);
-        c.refusal(x, "lay(3, -1, 0)", () -> x.lay(3, -1, 0), NOTHING);
-        c.refusal(x, "lay(3, 40, 0)", () -> x.lay(3, 40, 0), NOTHING);
-        c.refusal(x, "lay(0, 2, 0)", () -> x.lay(0, 2, 0), BEYOND);
-        c.refusal(x, "at(-1, -1)", () -> x.at(-1, -1), BAD);
-        c.refusal(x, "at(6, 40)", () -> x.at(6, 40), BAD);
-        c.refusal(x, "at(3, -1)", () -> x.at(3, -1), NOTHING);
-        c.refusal(x, "at(3, 40)", () -> x.at(3, 40), NOTHING);
-        c.refusal(x, "at(0, 2)", () -> x.at(0, 2), BEYOND);
-        c.refusal(x, "tear(3)", () -> x.tear(3), NOTHING);
-        c.refusal(n, "tear(-1), no ROWS", () -> n.tear(-1), BAD);
-        c.refusal(x, "mean(3)", () -> x.mean(3), NOTHING);
-        c.refusal(x, "mean(1)", () -> x.mean(1), NOUGHT);
-        c.refusal(n, "mean(6), no ROWS", () -> n.mean(6), BAD);
+    /** The same with 40 DEEDS. */
+    private static RoofLent forty() {
+        RoofLent x = rich();
+        x.build(3, 0, 9);
+        x.leave(3, 0);
+        return x;
     }
 
-    private static void copies(RoofLent x, Check c) {
-        c.refusal(x, "BAD ahead of SIZE, from", () -> x.copy(6, 0, 0, 0, -1), BAD);
-        c.refusal(x, "BAD ahead of SIZE, to", () -> x.copy(0, 0, -1, 0, -1), BAD);
-        c.refusal(x, "BAD ahead of NOTHING, to one that is missing", () -> x.copy(6, 0, 3, 0, 1), BAD);
-        c.refusal(x, "BAD ahead of NOTHING, from one that is missing", () -> x.copy(3, 0, 6, 0, 1), BAD);
-        c.refusal(x, "BAD ahead of BEYOND", () -> x.copy(0, 9, 6, 9, 9), BAD);
-        c.refusal(x, "SIZE ahead of NOTHING, from", () -> x.copy(3, 0, 0, 0, -1), SIZE);
-        c.refusal(x, "SIZE ahead of NOTHING, to", () -> x.copy(0, 0, 3, 0, -1), SIZE);
-        c.refusal(x, "SIZE ahead of BEYOND", () -> x.copy(0, 9, 0, -9, MIN), SIZE);
-        c.refusal(x, "NOTHING ahead of BEYOND, from", () -> x.copy(3, -1, 0, 9, 9), NOTHING);
-        c.refusal(x, "NOTHING ahead of BEYOND, to", () -> x.copy(0, 9, 3, -1, 9), NOTHING);
-        c.refusal(x, "NOTHING, from, with n 0", () -> x.copy(3, 0, 0, 0, 0), NOTHING);
-        c.refusal(x, "NOTHING, to, with n 0", () -> x.copy(0, 0, 3, 0, 0), NOTHING);
-        c.refusal(x, "BEYOND, from", () -> x.copy(0, 0, 2, 0, 3), BEYOND);
-        c.refusal(x, "BEYOND, to", () -> x.copy(2, 0, 0, 0, 3), BEYOND);
-        c.refusal(x, "BEYOND, from one of no places", () -> x.copy(1, 0, 0, 0, 1), BEYOND);
-        c.refusal(x, "BEYOND, to one of no places", () -> x.copy(0, 0, 1, 0, 1), BEYOND);
-        c.refusal(x, "BEYOND, with n 0, i below 0", () -> x.copy(1, -1, 1, 0, 0), BEYOND);
-        c.refusal(x, "BEYOND, with n 0, i above the size", () -> x.copy(1, 1, 1, 0, 0), BEYOND);
-        c.refusal(x, "BEYOND, with n 0, j below 0", () -> x.copy(1, 0, 1, -1, 0), BEYOND);
-        c.refusal(x, "BEYOND, with n 0, j above the size", () -> x.copy(1, 0, 1, 1, 0), BEYOND);
+    private static void rows(Asker n, Asker x) {
+        x.refuses("row(-1, -1)", y -> y.row(-1, -1), BAD);
+        x.refuses("row(6, MIN)", y -> y.row(6, MIN), BAD);
+        x.refuses("row(0, -1)", y -> y.row(0, -1), SIZE);
+        x.refuses("row(0, 41)", y -> y.row(0, 41), BAD);
+        x.refuses("row(3, -1), of one that is missing", y -> y.row(3, -1), SIZE);
+        x.refuses("lay(-1, -1, 0)", y -> y.lay(-1, -1, 0), BAD);
+        x.refuses("lay(6, 40, 0)", y -> y.lay(6, 40, 0), BAD);
+        x.refuses("lay(3, -1, 0)", y -> y.lay(3, -1, 0), NOTHING);
+        x.refuses("lay(3, 40, 0)", y -> y.lay(3, 40, 0), NOTHING);
+        x.refuses("lay(0, 2, 0)", y -> y.lay(0, 2, 0), BEYOND);
+        x.refuses("at(-1, -1)", y -> y.at(-1, -1), BAD);
+        x.refuses("at(6, 40)", y -> y.at(6, 40), BAD);
+        x.refuses("at(3, -1)", y -> y.at(3, -1), NOTHING);
+        x.refuses("at(3, 40)", y -> y.at(3, 40), NOTHING);
+        x.refuses("at(0, 2)", y -> y.at(0, 2), BEYOND);
+        x.refuses("tear(3)", y -> y.tear(3), NOTHING);
+        n.refuses("tear(-1), no ROWS", y -> y.tear(-1), BAD);
+        x.refuses("mean(3)", y -> y.mean(3), NOTHING);
+        x.refuses("mean(1)", y -> y.mean(1), NOUGHT);
+        n.refuses("mean(6), no ROWS", y -> y.mean(6), BAD);
     }
 
-    private static void texts(RoofLent n, RoofLent x, Check c) {
-        c.refusal(x, "text(-1, -1)", () -> x.text(-1, -1), BAD);
-        c.refusal(x, "text(4, MIN)", () -> x.text(4, MIN), BAD);
-        c.refusal(x, "text(1, -1)", () -> x.text(1, -1), SIZE);
-        c.refusal(x, "text(1, 61)", () -> x.text(1, 61), BAD);
-        c.refusal(x, "put(-1, -1, 0)", () -> x.put(-1, -1, 0), BAD);
-        c.refusal(x, "put(4, 60, 0)", () -> x.put(4, 60, 0), BAD);
-        c.refusal(x, "put(2, -1, 0)", () -> x.put(2, -1, 0), NOTHING);
-        c.refusal(x, "put(2, 60, 0)", () -> x.put(2, 60, 0), NOTHING);
-        c.refusal(x, "put(1, 5, 0)", () -> x.put(1, 5, 0), BEYOND);
-        c.refusal(x, "fault(2)", () -> x.fault(2), NOTHING);
-        c.refusal(n, "fault(4), no TEXTS", () -> n.fault(4), BAD);
-        c.refusal(x, "rock(2), STATE is behind NOTHING", () -> x.rock(2), NOTHING);
-        c.refusal(n, "rock(0), no TEXTS", () -> n.rock(0), NOTHING);
-        c.refusal(n, "rock(4), no TEXTS", () -> n.rock(4), BAD);
-        c.refusal(x, "rock(0), a FAULT", () -> x.rock(0), STATE);
+    private static void copies(Asker x) {
+        x.refuses("BAD ahead of SIZE, from", y -> y.copy(6, 0, 0, 0, -1), BAD);
+        x.refuses("BAD ahead of SIZE, to", y -> y.copy(0, 0, -1, 0, -1), BAD);
+        x.refuses("BAD ahead of NOTHING, to one that is missing", y -> y.copy(6, 0, 3, 0, 1), BAD);
+        x.refuses("BAD ahead of NOTHING, from one that is missing", y -> y.copy(3, 0, 6, 0, 1), BAD);
+        x.refuses("BAD ahead of BEYOND", y -> y.copy(0, 9, 6, 9, 9), BAD);
+        x.refuses("SIZE ahead of NOTHING, from", y -> y.copy(3, 0, 0, 0, -1), SIZE);
+        x.refuses("SIZE ahead of NOTHING, to", y -> y.copy(0, 0, 3, 0, -1), SIZE);
+        x.refuses("SIZE ahead of BEYOND", y -> y.copy(0, 9, 0, -9, MIN), SIZE);
+        x.refuses("NOTHING ahead of BEYOND, from", y -> y.copy(3, -1, 0, 9, 9), NOTHING);
+        x.refuses("NOTHING ahead of BEYOND, to", y -> y.copy(0, 9, 3, -1, 9), NOTHING);
+        x.refuses("NOTHING, from, with n 0", y -> y.copy(3, 0, 0, 0, 0), NOTHING);
+        x.refuses("NOTHING, to, with n 0", y -> y.copy(0, 0, 3, 0, 0), NOTHING);
+        x.refuses("BEYOND, from", y -> y.copy(0, 0, 2, 0, 3), BEYOND);
+        x.refuses("BEYOND, to", y -> y.copy(2, 0, 0, 0, 3), BEYOND);
+        x.refuses("BEYOND, from one of no places", y -> y.copy(1, 0, 0, 0, 1), BEYOND);
+        x.refuses("BEYOND, to one of no places", y -> y.copy(0, 0, 1, 0, 1), BEYOND);
+        x.refuses("BEYOND, with n 0, i below 0", y -> y.copy(1, -1, 1, 0, 0), BEYOND);
+        x.refuses("BEYOND, with n 0, i above the size", y -> y.copy(1, 1, 1, 0, 0), BEYOND);
+        x.refuses("BEYOND, with n 0, j below 0", y -> y.copy(1, 0, 1, -1, 0), BEYOND);
+        x.refuses("BEYOND, with n 0, j above the size", y -> y.copy(1, 0, 1, 1, 0), BEYOND);
     }
 
-    private static void rocks(RoofLent n, RoofLent x, Check c) {
-        c.refusal(n, "tower(0), no TOWERS", () -> n.tower(0), BAD);
-        c.refusal(x, "undo(39) of 38", () -> x.undo(39), BAD);
-        c.refusal(x, "undo(-1) of 38", () -> x.undo(-1), BAD);
-        c.refusal(n, "keep(-1), no TOWERS", () -> n.keep(-1), BAD);
-        c.refusal(n, "keep(3), no TOWERS", () -> n.keep(3), BAD);
-        c.refusal(n, "keep(0), no TOWERS", () -> n.keep(0), STATE);
-        c.refusal(n, "on(3), none kept", () -> n.on(3), BAD);
-        c.refusal(n, "on(0), none kept", () -> n.on(0), NOTHING);
-        c.refusal(x, "on(1), none kept there", () -> x.on(1), NOTHING);
-        c.refusal(x, "on(2), none kept there", () -> x.on(2), NOTHING);
+    private static void texts(Asker n, Asker x) {
+        x.refuses("text(-1, -1)", y -> y.text(-1, -1), BAD);
+        x.refuses("text(4, MIN)", y -> y.text(4, MIN), BAD);
+        x.refuses("text(1, -1)", y -> y.text(1, -1), SIZE);
+        x.refuses("text(1, 61)", y -> y.text(1, 61), BAD);
+        x.refuses("put(-1, -1, 0)", y -> y.put(-1, -1, 0), BAD);
+        x.refuses("put(4, 60, 0)", y -> y.put(4, 60, 0), BAD);
+        x.refuses("put(2, -1, 0)", y -> y.put(2, -1, 0), NOTHING);
+        x.refuses("put(2, 60, 0)", y -> y.put(2, 60, 0), NOTHING);
+        x.refuses("put(1, 5, 0)", y -> y.put(1, 5, 0), BEYOND);
+        x.refuses("fault(2)", y -> y.fault(2), NOTHING);
+        n.refuses("fault(4), no TEXTS", y -> y.fault(4), BAD);
+        x.refuses("rock(2), STATE is behind NOTHING", y -> y.rock(2), NOTHING);
+        n.refuses("rock(0), no TEXTS", y -> y.rock(0), NOTHING);
+        n.refuses("rock(4), no TEXTS", y -> y.rock(4), BAD);
+        x.refuses("rock(0), a FAULT", y -> y.rock(0), STATE);
+    }
+
+    private static void rocks(Asker n, Asker x) {
+        n.refuses("tower(0), no TOWERS", y -> y.tower(0), BAD);
+        x.refuses("undo(39) of 38", y -> y.undo(39), BAD);
+        x.refuses("undo(-1) of 38", y -> y.undo(-1), BAD);
+        n.refuses("keep(-1), no TOWERS", y -> y.keep(-1), BAD);
+        n.refuses("keep(3), no TOWERS", y -> y.keep(3), BAD);
+        n.refuses("keep(0), no TOWERS", y -> y.keep(0), STATE);
+        n.refuses("on(3), none kept", y -> y.on(3), BAD);
+        n.refuses("on(0), none kept", y -> y.on(0), NOTHING);
+        x.refuses("on(1), none kept there", y -> y.on(1), NOTHING);
+        x.refuses("on(2), none kept there", y -> y.on(2), NOTHING);
     }
 
     /** BAD (of each number) is ahead of BEYOND, and BEYOND ahead of what a call asks for besides. */
-    private static void places(RoofLent x, Check c) {
-        c.refusal(x, "house(4, 9, 0)", () -> x.house(4, 9, 0), BAD);
-        c.refusal(x, "house(0, 9, 7)", () -> x.house(0, 9, 7), BAD);
-        c.refusal(x, "house(3, 0, -1)", () -> x.house(3, 0, -1), BAD);
-        c.refusal(x, "house(3, 0, 0)", () -> x.house(3, 0, 0), BEYOND);
-        c.refusal(x, "mark(4, 9, 1)", () -> x.mark(4, 9, 1), BAD);
-        c.refusal(x, "mark(0, 9, 0)", () -> x.mark(0, 9, 0), BAD);
-        c.refusal(x, "mark(0, 9, 6)", () -> x.mark(0, 9, 6), BAD);
-        c.refusal(x, "mark(0, 0, 0), that it IS", () -> x.mark(0, 0, 0), BAD);
-        c.refusal(x, "mark(0, 1, 0), that it IS, too", () -> x.mark(0, 1, 0), BAD);
-        c.refusal(x, "mark(0, 0, 6)", () -> x.mark(0, 0, 6), BAD);
-        c.refusal(x, "mark(0, 9, 5)", () -> x.mark(0, 9, 5), BEYOND);
-        c.refusal(x, "mark(0, 0, 5)", () -> x.mark(0, 0, 5), UNLIKE);
-        c.refusal(x, "mark(0, 1, 4), a GLASS one is no EMPTY one", () -> x.mark(0, 1, 4), UNLIKE);
-        c.refusal(x, "bear(4, 9, 0)", () -> x.bear(4, 9, 0), BAD);
-        c.refusal(x, "bear(0, 9, 10)", () -> x.bear(0, 9, 10), BAD);
-        c.refusal(x, "bear(0, 9, -1)", () -> x.bear(0, 9, -1), BAD);
-        c.refusal(x, "bear(0, 9, 9)", () -> x.bear(0, 9, 9), BEYOND);
-        c.refusal(x, "shades(4, 9, 0)", () -> x.shades(4, 9, 0), BAD);
-        c.refusal(x, "shades(0, 9, 5)", () -> x.shades(0, 9, 5), BAD);
-        c.refusal(x, "shades(0, 9, 4)", () -> x.shades(0, 9, 4), BEYOND);
-        c.refusal(x, "sees(4, 9)", () -> x.sees(4, 9), BAD);
-        c.refusal(x, "sees(0, 9)", () -> x.sees(0, 9), BEYOND);
-        c.refusal(x, "odds(4, 9)", () -> x.odds(4, 9), BAD);
-        c.refusal(x, "odds(0, 9)", () -> x.odds(0, 9), BEYOND);
+    private static void places(Asker x) {
+        x.refuses("house(4, 9, 0)", y -> y.house(4, 9, 0), BAD);
+        x.refuses("house(0, 9, 7)", y -> y.house(0, 9, 7), BAD);
+        x.refuses("house(3, 0, -1)", y -> y.house(3, 0, -1), BAD);
+        x.refuses("house(3, 0, 0)", y -> y.house(3, 0, 0), BEYOND);
+        x.refuses("mark(4, 9, 1)", y -> y.mark(4, 9, 1), BAD);
+        x.refuses("mark(0, 9, 0)", y -> y.mark(0, 9, 0), BAD);
+        x.refuses("mark(0, 9, 6)", y -> y.mark(0, 9, 6), BAD);
+        x.refuses("mark(0, 0, 0), that it IS", y -> y.mark(0, 0, 0), BAD);
+        x.refuses("mark(0, 1, 0), that it IS, too", y -> y.mark(0, 1, 0), BAD);
+        x.refuses("mark(0, 0, 6)", y -> y.mark(0, 0, 6), BAD);
+        x.refuses("mark(0, 9, 5)", y -> y.mark(0, 9, 5), BEYOND);
+        x.refuses("mark(0, 0, 5)", y -> y.mark(0, 0, 5), UNLIKE);
+        x.refuses("mark(0, 1, 4), a GLASS one is no EMPTY one", y -> y.mark(0, 1, 4), UNLIKE);
+        x.refuses("bear(4, 9, 0)", y -> y.bear(4, 9, 0), BAD);
+        x.refuses("bear(0, 9, 10)", y -> y.bear(0, 9, 10), BAD);
+        x.refuses("bear(0, 9, -1)", y -> y.bear(0, 9, -1), BAD);
+        x.refuses("bear(0, 9, 9)", y -> y.bear(0, 9, 9), BEYOND);
+        x.refuses("shades(4, 9, 0)", y -> y.shades(4, 9, 0), BAD);
+        x.refuses("shades(0, 9, 5)", y -> y.shades(0, 9, 5), BAD);
+        x.refuses("shades(0, 9, 4)", y -> y.shades(0, 9, 4), BEYOND);
+        x.refuses("sees(4, 9)", y -> y.sees(4, 9), BAD);
+        x.refuses("sees(0, 9)", y -> y.sees(0, 9), BEYOND);
+        x.refuses("odds(4, 9)", y -> y.odds(4, 9), BAD);
+        x.refuses("odds(0, 9)", y -> y.odds(0, 9), BEYOND);
     }
 
-    private static void deeds(RoofLent x, Check c) {
-        c.refusal(x, "leave(4, 9), 38 DEEDS", () -> x.leave(4, 9), BAD);
-        c.refusal(x, "leave(0, 9), 38 DEEDS", () -> x.leave(0, 9), BEYOND);
-        RoofLent y = rich();
-        y.build(3, 0, 9);
-        y.leave(3, 0);
-        c.refusal(y, "leave(4, 0), 40 DEEDS", () -> y.leave(4, 0), BAD);
-        c.refusal(y, "leave(0, -1), 40 DEEDS", () -> y.leave(0, -1), BAD);
-        c.refusal(y, "leave(3, 0), 40 DEEDS: FULL last", () -> y.leave(3, 0), BEYOND);
-        c.refusal(y, "leave(0, 0), 40 DEEDS", () -> y.leave(0, 0), FULL);
-        c.refusal(y, "build(4, 0, 9), 40 DEEDS", () -> y.build(4, 0, 9), BAD);
-        c.refusal(y, "build(0, 6, 9), 40 DEEDS", () -> y.build(0, 6, 9), BAD);
-        c.refusal(y, "build(0, 0, 10), 40 DEEDS", () -> y.build(0, 0, 10), BAD);
-        c.refusal(y, "build(0, 0, 9), 40 DEEDS", () -> y.build(0, 0, 9), FULL);
-        c.refusal(y, "undo(41)", () -> y.undo(41), BAD);
-        c.due("undo(39) of 40", y.undo(39), 1);
-        c.due("leave(0, 0), 39 DEEDS", y.leave(0, 0), 2);
+    private static void deeds(Asker x) {
+        x.refuses("leave(4, 9), 38 DEEDS", y -> y.leave(4, 9), BAD);
+        x.refuses("leave(0, 9), 38 DEEDS", y -> y.leave(0, 9), BEYOND);
+    }
+
+    private static void fortyDeeds(Asker x) {
+        x.refuses("leave(4, 0), 40 DEEDS", y -> y.leave(4, 0), BAD);
+        x.refuses("leave(0, -1), 40 DEEDS", y -> y.leave(0, -1), BAD);
+        x.refuses("leave(3, 0), 40 DEEDS: FULL last", y -> y.leave(3, 0), BEYOND);
+        x.refuses("leave(0, 0), 40 DEEDS", y -> y.leave(0, 0), FULL);
+        x.refuses("build(4, 0, 9), 40 DEEDS", y -> y.build(4, 0, 9), BAD);
+        x.refuses("build(0, 6, 9), 40 DEEDS", y -> y.build(0, 6, 9), BAD);
+        x.refuses("build(0, 0, 10), 40 DEEDS", y -> y.build(0, 0, 10), BAD);
+        x.refuses("build(0, 0, 9), 40 DEEDS", y -> y.build(0, 0, 9), FULL);
+        x.refuses("build(1, 0, 9), 40 DEEDS and 6 there", y -> y.build(1, 0, 9), FULL);
+        x.refuses("lots(1, 1), 40 DEEDS", y -> y.lots(1, 1), FULL);
+        x.refuses("lots(1, 0), 40 DEEDS", y -> y.lots(1, 0), BAD);
+        x.refuses("undo(41)", y -> y.undo(41), BAD);
     }
 
     private static void fullTowers() {
@@ -189,42 +224,42 @@ public final class RefusedTest {
         c.due("count(2), no DEED but one", x.count(2), 1);
     }
 
-    private static void questions(RoofLent n, RoofLent x, Check c) {
-        c.refusal(n, "best(-1, 0), no TOWERS", () -> n.best(-1, 0), BAD);
-        c.refusal(n, "best(0, 10), no TOWERS", () -> n.best(0, 10), BAD);
-        c.refusal(n, "best(0, 0), no TOWERS", () -> n.best(0, 0), STATE);
-        c.refusal(n, "both(6, 0, 0), no TOWERS", () -> n.both(6, 0, 0), BAD);
-        c.refusal(n, "both(0, 6, 0), no TOWERS", () -> n.both(0, 6, 0), BAD);
-        c.refusal(n, "both(0, 0, -1), no TOWERS", () -> n.both(0, 0, -1), BAD);
-        c.refusal(n, "both(0, 0, 0), no TOWERS", () -> n.both(0, 0, 0), STATE);
-        c.refusal(n, "high(0, 0), no TOWERS", () -> n.high(0, 0), BAD);
-        c.refusal(n, "game(10, 0), no TOWERS", () -> n.game(10, 0), BAD);
-        c.refusal(n, "game(0, 5), no TOWERS", () -> n.game(0, 5), BAD);
-        c.refusal(n, "game(0, 0), no TOWERS", () -> n.game(0, 0), STATE);
-        c.refusal(n, "begin(-1, 0), no TOWERS", () -> n.begin(-1, 0), BAD);
-        c.refusal(n, "begin(0, -1), no TOWERS", () -> n.begin(0, -1), BAD);
-        c.refusal(n, "begin(0, 4), no TOWERS", () -> n.begin(0, 4), STATE);
-        c.refusal(n, "fog(6), no ROWS", () -> n.fog(6), BAD);
-        c.refusal(n, "fog(0), no ROWS", () -> n.fog(0), NOTHING);
-        c.refusal(x, "fog(3)", () -> x.fog(3), NOTHING);
-        c.refusal(x, "fog(0), too few", () -> x.fog(0), SIZE);
-        c.refusal(x, "owes(10, 10)", () -> x.owes(10, 10), BAD);
-        c.refusal(x, "owes(5, 5)", () -> x.owes(5, 5), BAD);
-        c.refusal(x, "debt(10)", () -> x.debt(10), BAD);
-        c.refusal(x, "count(9)", () -> x.count(9), BAD);
-        c.refusal(x, "findings(0)", () -> x.findings(0), BAD);
+    private static void questions(Asker n, Asker x) {
+        n.refuses("best(-1, 0), no TOWERS", y -> y.best(-1, 0), BAD);
+        n.refuses("best(0, 10), no TOWERS", y -> y.best(0, 10), BAD);
+        n.refuses("best(0, 0), no TOWERS", y -> y.best(0, 0), STATE);
+        n.refuses("both(6, 0, 0), no TOWERS", y -> y.both(6, 0, 0), BAD);
+        n.refuses("both(0, 6, 0), no TOWERS", y -> y.both(0, 6, 0), BAD);
+        n.refuses("both(0, 0, -1), no TOWERS", y -> y.both(0, 0, -1), BAD);
+        n.refuses("both(0, 0, 0), no TOWERS", y -> y.both(0, 0, 0), STATE);
+        n.refuses("high(0, 0), no TOWERS", y -> y.high(0, 0), BAD);
+        n.refuses("game(10, 0), no TOWERS", y -> y.game(10, 0), BAD);
+        n.refuses("game(0, 5), no TOWERS", y -> y.game(0, 5), BAD);
+        n.refuses("game(0, 0), no TOWERS", y -> y.game(0, 0), STATE);
+        n.refuses("begin(-1, 0), no TOWERS", y -> y.begin(-1, 0), BAD);
+        n.refuses("begin(0, -1), no TOWERS", y -> y.begin(0, -1), BAD);
+        n.refuses("begin(0, 4), no TOWERS", y -> y.begin(0, 4), STATE);
+        n.refuses("fog(6), no ROWS", y -> y.fog(6), BAD);
+        n.refuses("fog(0), no ROWS", y -> y.fog(0), NOTHING);
+        x.refuses("fog(3)", y -> y.fog(3), NOTHING);
+        x.refuses("fog(0), too few", y -> y.fog(0), SIZE);
+        x.refuses("owes(10, 10)", y -> y.owes(10, 10), BAD);
+        x.refuses("owes(5, 5)", y -> y.owes(5, 5), BAD);
+        x.refuses("debt(10)", y -> y.debt(10), BAD);
+        x.refuses("count(9)", y -> y.count(9), BAD);
+        x.refuses("findings(0)", y -> y.findings(0), BAD);
     }
 
-    private static void kinds(RoofLent x, Check c) {
-        c.refusal(x, "BAD (the TOWER) ahead of BEYOND", () -> x.kinds(4, 9, 0), BAD);
-        c.refusal(x, "BAD (the STOREY) ahead of NOTHING", () -> x.kinds(0, -1, 3), BAD);
-        c.refusal(x, "BAD (the ROW) ahead of BEYOND", () -> x.kinds(0, 9, 6), BAD);
-        c.refusal(x, "BEYOND ahead of NOTHING", () -> x.kinds(0, 9, 3), BEYOND);
-        c.refusal(x, "BEYOND ahead of SIZE", () -> x.kinds(0, 9, 0), BEYOND);
-        c.refusal(x, "BEYOND alone", () -> x.kinds(0, 9, 2), BEYOND);
-        c.refusal(x, "NOTHING", () -> x.kinds(0, 0, 3), NOTHING);
-        c.refusal(x, "SIZE, too few", () -> x.kinds(0, 0, 0), SIZE);
-        c.refusal(x, "SIZE, none", () -> x.kinds(0, 0, 1), SIZE);
+    private static void kinds(Asker x) {
+        x.refuses("BAD (the TOWER) ahead of BEYOND", y -> y.kinds(4, 9, 0), BAD);
+        x.refuses("BAD (the STOREY) ahead of NOTHING", y -> y.kinds(0, -1, 3), BAD);
+        x.refuses("BAD (the ROW) ahead of BEYOND", y -> y.kinds(0, 9, 6), BAD);
+        x.refuses("BEYOND ahead of NOTHING", y -> y.kinds(0, 9, 3), BEYOND);
+        x.refuses("BEYOND ahead of SIZE", y -> y.kinds(0, 9, 0), BEYOND);
+        x.refuses("BEYOND alone", y -> y.kinds(0, 9, 2), BEYOND);
+        x.refuses("NOTHING", y -> y.kinds(0, 0, 3), NOTHING);
+        x.refuses("SIZE, too few", y -> y.kinds(0, 0, 0), SIZE);
+        x.refuses("SIZE, none", y -> y.kinds(0, 0, 1), SIZE);
     }
 
     private static void kindsOfAnotherSize() {
@@ -237,32 +272,23 @@ public final class RefusedTest {
         c.refusal(x, "SIZE, one too many", () -> x.kinds(0, 0, 2), SIZE);
     }
 
-    private static void lots(RoofLent n, RoofLent x, Check c) {
-        c.refusal(n, "lots(0, 1), no TOWERS", () -> n.lots(0, 1), BAD);
-        c.refusal(n, "lots(13, 1), no TOWERS", () -> n.lots(13, 1), BAD);
-        c.refusal(n, "lots(1, 0), no TOWERS", () -> n.lots(1, 0), BAD);
-        c.refusal(n, "lots(1, MAX), no TOWERS", () -> n.lots(1, MAX), BAD);
-        c.refusal(n, "lots(12, 1), no TOWERS", () -> n.lots(12, 1), STATE);
-        c.refusal(x, "lots(13, 1), 38 DEEDS", () -> x.lots(13, 1), BAD);
-        c.refusal(x, "lots(3, 0), 38 DEEDS", () -> x.lots(3, 0), BAD);
-        c.refusal(x, "lots(3, 1), 38 DEEDS", () -> x.lots(3, 1), FULL);
-        c.refusal(x, "lots(12, 1), 38 DEEDS", () -> x.lots(12, 1), FULL);
+    private static void lots(Asker n, Asker x) {
+        n.refuses("lots(0, 1), no TOWERS", y -> y.lots(0, 1), BAD);
+        n.refuses("lots(13, 1), no TOWERS", y -> y.lots(13, 1), BAD);
+        n.refuses("lots(1, 0), no TOWERS", y -> y.lots(1, 0), BAD);
+        n.refuses("lots(1, MAX), no TOWERS", y -> y.lots(1, MAX), BAD);
+        n.refuses("lots(12, 1), no TOWERS", y -> y.lots(12, 1), STATE);
+        x.refuses("lots(13, 1), 38 DEEDS", y -> y.lots(13, 1), BAD);
+        x.refuses("lots(3, 0), 38 DEEDS", y -> y.lots(3, 0), BAD);
+        x.refuses("lots(3, 1), 38 DEEDS", y -> y.lots(3, 1), FULL);
+        x.refuses("lots(12, 1), 38 DEEDS", y -> y.lots(12, 1), FULL);
     }
 
     /** All of the above that is refused, asked of one of two that are alike. */
-    private static void twins(String how, java.util.function.Supplier<RoofLent> make) {
+    private static void twins(String how, Supplier<RoofLent> make, Consumer<RoofLent> refused) {
         RoofLent x = make.get();
         RoofLent twin = make.get();
-        Check unheard = Check.unheard();
-        RoofLent n = new RoofLent();
-        rows(n, x, unheard);
-        copies(x, unheard);
-        texts(n, x, unheard);
-        rocks(n, x, unheard);
-        places(x, unheard);
-        questions(n, x, unheard);
-        kinds(x, unheard);
-        lots(n, x, unheard);
+        refused.accept(x);
         same(how + ", asked()", x, twin, RoofLent::asked);
         same(how + ", upper()", x, twin, y -> (int) y.upper());
         same(how + ", lower()", x, twin, y -> (int) y.lower());

@@ -22,6 +22,7 @@ public final class RocksTest {
         promise18Bears();
         promise19();
         promise20();
+        promise20OtherDeeds();
         fullOfDeeds();
         c.end();
     }
@@ -429,6 +430,34 @@ public final class RocksTest {
         c.finding(x, "on(0)", () -> x.on(0), Check.NOTHING);
         c.refused(x, "on(3)", () -> x.on(3), Check.BAD);
         c.refused(x, "on(-1)", () -> x.on(-1), Check.BAD);
+    }
+
+    /** What is kept keeps its own DEEDS, others that were done since have no part in it. */
+    private static void promise20OtherDeeds() {
+        RoofLent x = Check.on("rh1 rg3");
+        x.build(1, 2, 3);
+        x.build(0, 4, 5);
+        x.keep(2);
+        x.undo(0);
+        x.leave(0, 0);
+        x.leave(1, 0);
+        x.build(0, 5, 6);
+        x.keep(0);
+        c.due("on(2)", x.on(2), 2);
+        c.due("HOUSES as kept", Check.signsOf(x).equals("rh1e5 rg3l3") ? 1 : 0, 1);
+        c.due("undo(1)", x.undo(1), 1);
+        c.due("HOUSES ahead of DEED 1", Check.signsOf(x).equals("rh1 rg3l3") ? 1 : 0, 1);
+        c.due("on(0)", x.on(0), 3);
+        c.due("HOUSES as kept", Check.signsOf(x).equals("rm6 r") ? 1 : 0, 1);
+        c.due("undo(2)", x.undo(2), 1);
+        c.due("HOUSES ahead of DEED 2", Check.signsOf(x).equals("r r") ? 1 : 0, 1);
+        c.due("undo(1)", x.undo(1), 1);
+        c.due("HOUSES ahead of DEED 1", Check.signsOf(x).equals("r rg3") ? 1 : 0, 1);
+        c.due("undo(0)", x.undo(0), 1);
+        c.due("HOUSES ahead of all", Check.signsOf(x).equals("rh1 rg3") ? 1 : 0, 1);
+        c.due("on(2) again", x.on(2), 2);
+        c.due("undo(0)", x.undo(0), 2);
+        c.due("HOUSES ahead of all", Check.signsOf(x).equals("rh1 rg3") ? 1 : 0, 1);
     }
 
     private static void fullOfDeeds() {

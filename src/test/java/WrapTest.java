@@ -203,32 +203,34 @@ public final class WrapTest {
     }
 
     private static void digests() {
+        c.due("digest() of a new object", new RoofLent().digest(), digestOf(new RoofLent(), new int[] {-1, -1, -1}, new String[4]));
+        String[] rocks = {"rrrrr", "rh9", "rh1h2h3 rg4e5 rl6m7 ra8a9 rm0m0m0", "rh9h9h9h9h9h9rm9m9m9m9m9m9"};
+        for (int i = 0; i < rocks.length; i++) {
+            digested(rocks[i], i);
+        }
+    }
+
+    private static void digested(String rock, int i) {
         RoofLent x = new RoofLent();
         String[] texts = new String[4];
         int[] kept = {-1, -1, -1};
-        c.due("digest() of a new object", x.digest(), digestOf(x, kept, texts));
-        String[] rocks = {"rrrrr", "rh9", "rh1h2h3 rg4e5 rl6m7 ra8a9 rm0m0m0", "rh9h9h9h9h9h9rm9m9m9m9m9m9"};
-        for (int i = 0; i < rocks.length; i++) {
-            texts[i] = rocks[i];
-            Check.write(x, i, rocks[i]);
-            x.rock(i);
-            java.util.Arrays.fill(kept, -1);
-            x.build(0, 3, 5);
-            kept[i % 3] = x.keep(i % 3);
-            x.lots(12, i + 1);
-            kept[(i + 1) % 3] = x.keep((i + 1) % 3);
-            x.row(i, 13 * i);
-            for (int place = 0; place < 13 * i; place++) {
-                x.lay(i, place, (place % 3 - 1) * (MAX - place));
-            }
-            c.due("digest() of " + rocks[i], x.digest(), digestOf(x, kept, texts));
+        Check.write(x, i, rock);
+        texts[i] = rock;
+        x.rock(i);
+        x.build(0, 3, 5);
+        kept[i % 3] = x.keep(i % 3);
+        x.lots(6, i + 1);
+        kept[(i + 1) % 3] = x.keep((i + 1) % 3);
+        x.row(i, 13 * i);
+        for (int place = 0; place < 13 * i; place++) {
+            x.lay(i, place, (place % 3 - 1) * (MAX - place));
         }
-        texts[0] = "" + (char) 255 + (char) 128 + (char) 127 + (char) 0;
-        Check.write(x, 0, texts[0]);
-        x.row(4, 1);
-        x.lay(4, 0, MIN);
-        x.row(5, 0);
-        c.due("digest() of signs below 0", x.digest(), digestOf(x, kept, texts));
+        x.row(i + 1, 1);
+        x.lay(i + 1, 0, MIN);
+        x.row(i + 2, 0);
+        texts[(i + 1) % 4] = "" + (char) 255 + (char) 128 + (char) 127 + (char) 0;
+        Check.write(x, (i + 1) % 4, texts[(i + 1) % 4]);
+        c.due("digest() of " + rock, x.digest(), digestOf(x, kept, texts));
     }
 
     private static void digestChangesNothing() {

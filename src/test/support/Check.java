@@ -4,28 +4,14 @@ final class Check {
     static final int NOTHING = 1, BEYOND = 2, UNLIKE = 3, NOUGHT = 4, SIZE = 5;
     private static final int FEW = 60;
 
-    private final boolean isHeard;
     private int compared = 0;
     private int wrong = 0;
-
-    Check() {
-        this(true);
-    }
-
-    private Check(boolean isHeard) {
-        this.isHeard = isHeard;
-    }
-
-    /** One that says nothing of what it finds: for calls that are made for what comes behind them. */
-    static Check unheard() {
-        return new Check(false);
-    }
 
     void due(String call, long got, long want) {
         compared++;
         if (got != want) {
             wrong++;
-            if (isHeard && wrong <= FEW) {
+            if (wrong <= FEW) {
                 System.out.println(call + " answered " + got + ", due is " + want);
             }
         }
