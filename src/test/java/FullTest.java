@@ -14,6 +14,7 @@ public final class FullTest {
         beyondFullTexts();
         faultsAtTheEnd();
         fullRocks();
+        fifthTower();
         seventhHouse();
         thirteenthHouse();
         sixThere();
@@ -187,6 +188,31 @@ public final class FullTest {
             }
         }
         c.due("all HOUSES", number, 12);
+    }
+
+    /** East of the fifth TOWER there is none, west of the first there is none. */
+    private static void fifthTower() {
+        RoofLent x = on("rl9g9 rh9 rh9 rh9 rh9l9m9");
+        c.told(x, "mark(4, 1, 2)", x.mark(4, 1, 2), 0, 77);
+        c.due("mark(4, 2, 2)", x.mark(4, 2, 2), 0);
+        c.due("mark(4, 2, 5)", x.mark(4, 2, 5), 2);
+        c.due("mark(0, 0, 2)", x.mark(0, 0, 2), 1);
+        c.due("mark(0, 1, 1): of three HOUSES, one of them in the fifth TOWER", x.mark(0, 1, 1), 3);
+        c.due("shades(4, 0, 4)", x.shades(4, 0, 4), NONE);
+        c.due("shades(4, 0, 3)", x.shades(4, 0, 3), NONE);
+        c.due("shades(4, 0, 0)", x.shades(4, 0, 0), 4);
+        c.due("shades(0, 0, 0)", x.shades(0, 0, 0), NONE);
+        c.due("shades(0, 0, 1)", x.shades(0, 0, 1), NONE);
+        c.due("sees(4, 2)", x.sees(4, 2), 31);
+        c.told(x, "house(4, 0, 3), all lean on their own", x.house(4, 0, 3), 1, 4);
+        c.told(x, "house(4, 1, 3)", x.house(4, 1, 3), 1, 2);
+        c.told(x, "house(4, 2, 3)", x.house(4, 2, 3), 1, 0);
+        c.told(x, "house(1, 0, 3)", x.house(1, 0, 3), 1, 1);
+        c.told(x, "house(0, 0, 3), none to the west", x.house(0, 0, 3), 1, 1);
+        c.told(x, "best(0, 9)", x.best(0, 9), 4, 15);
+        c.due("high(4, 9)", x.high(4, 9), 2);
+        c.due("build(4, 2, 9)", x.build(4, 2, 9), 3);
+        c.told(x, "house(4, 0, 3)", x.house(4, 0, 3), 1, 6);
     }
 
     private static void seventhHouse() {

@@ -27,7 +27,7 @@ public final class NowTest {
         new Question("settle()", RoofLent::settle), new Question("rings()", RoofLent::rings),
         new Question("game(3, 4)", x -> x.game(3, 4)), new Question("begin(3, 3)", x -> x.begin(3, 3)),
         new Question("fog(0)", x -> x.fog(0)), new Question("kinds(0, 0, 0)", x -> x.kinds(0, 0, 0)),
-        new Question("odds(0, 0)", x -> x.odds(0, 0)), new Question("upper()", x -> 10 * x.odds(1, 0) + x.upper()),
+        new Question("odds(0, 0)", x -> x.odds(0, 0)), new Question("upper()", x -> x.odds(1, 0) == 1 ? x.upper() : 0),
         new Question("count(3)", x -> x.count(3)), new Question("count(4)", x -> x.count(4)),
         new Question("count(5)", x -> x.count(5))
     };
@@ -42,6 +42,7 @@ public final class NowTest {
         all("on()", () -> gone(Check.on("rh9g9m9 ra9e9 r")));
         all("another rock()", () -> another(Check.on("rh9h9h9 rh9h9 rh9")));
         all("another rock() with fewer TOWERS", () -> another(Check.on("rh9 rh9h9 rh9 rm9 rm9")));
+        oneRockAheadOfAnother();
         ghosts();
         c.end();
     }
@@ -143,6 +144,29 @@ public final class NowTest {
             RoofLent single = withLight(Check.on(signs), light);
             c.due("behind " + how + ", back, " + QUESTIONS[i].name, QUESTIONS[i].call.applyAsLong(x),
                 QUESTIONS[i].call.applyAsLong(single));
+        }
+    }
+
+    /** All is asked on one ROCK, and then all on another, which is answered as on a new object. */
+    private static void oneRockAheadOfAnother() {
+        String[] rocks = {"rrrrr", "rh9 ra9 r ra9 rh9", "ra9 ra9 rh9 rh9", "rh9a9 rg9l9m9 rg9m9", "rh0h0h0h0 rm9",
+            "rg9h9 ra9g9l9", "re9m9l9 rl9l9 rm9g9", "rh9h9h9 rh9h9h9", "rh9h9 r r r rh9h9"};
+        for (String one : rocks) {
+            for (String other : rocks) {
+                int[] light = lightOf(Check.on(other));
+                RoofLent x = withLight(Check.on(one), lightOf(Check.on(one)));
+                RoofLent fresh = withLight(Check.on(other), light);
+                for (Question each : QUESTIONS) {
+                    each.call.applyAsLong(x);
+                }
+                Check.write(x, 3, other);
+                x.rock(3);
+                withLight(x, light);
+                for (Question each : QUESTIONS) {
+                    c.due("on " + other + " behind " + one + ", " + each.name, each.call.applyAsLong(x),
+                        each.call.applyAsLong(fresh));
+                }
+            }
         }
     }
 
