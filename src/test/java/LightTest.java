@@ -103,6 +103,8 @@ public final class LightTest {
         c.told(x, "debt(3)", x.debt(3), 1, 0);
         c.refused(x, "debt(4)", () -> x.debt(4), Check.BAD);
         c.refused(x, "debt(-1)", () -> x.debt(-1), Check.BAD);
+        RoofLent z = Check.on("rh9 ra9h9 re9");
+        c.told(z, "debt(2), ahead of all others", z.debt(2), 1, 3);
         RoofLent y = new RoofLent();
         c.refused(y, "debt(0) without houses", () -> y.debt(0), Check.BAD);
     }

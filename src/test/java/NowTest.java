@@ -43,6 +43,7 @@ public final class NowTest {
         all("another rock()", () -> another(Check.on("rh9h9h9 rh9h9 rh9")));
         all("another rock() with fewer TOWERS", () -> another(Check.on("rh9 rh9h9 rh9 rm9 rm9")));
         oneRockAheadOfAnother();
+        firstOfAll();
         ghosts();
         c.end();
     }
@@ -142,8 +143,13 @@ public final class NowTest {
         }
         for (int i = QUESTIONS.length - 1; i >= 0; i--) {
             RoofLent single = withLight(Check.on(signs), light);
-            c.due("behind " + how + ", back, " + QUESTIONS[i].name, QUESTIONS[i].call.applyAsLong(x),
-                QUESTIONS[i].call.applyAsLong(single));
+            int asked = single.asked();
+            String name = "behind " + how + ", back, " + QUESTIONS[i].name;
+            long want = QUESTIONS[i].call.applyAsLong(single);
+            c.due(name, QUESTIONS[i].call.applyAsLong(x), want);
+            if (single.asked() != asked) {
+                c.due(name + ", then asked()", x.asked(), single.asked());
+            }
         }
     }
 
@@ -168,6 +174,38 @@ public final class NowTest {
                 }
             }
         }
+    }
+
+    private static void first(String name, ToLongFunction<RoofLent> call, long want, int asked) {
+        RoofLent x = Check.on("rh9 ra9h9 re9");
+        c.told(x, name + " first of all", call.applyAsLong(x), want, asked);
+        Check.write(x, 0, "rh9 ra9h9 re9 rh9");
+        x.rock(0);
+        Check.write(x, 0, "rh9 ra9h9 re9");
+        x.rock(0);
+        c.told(x, name + " first on another rock", call.applyAsLong(x), want, asked);
+    }
+
+    /** Nothing has been asked ahead of it, on this rock or on any: the answers are reckoned by hand. */
+    private static void firstOfAll() {
+        first("house(1, 0, 4)", x -> x.house(1, 0, 4), 1, 3);
+        first("house(1, 0, 5)", x -> x.house(1, 0, 5), 1, 1);
+        first("house(1, 0, 6)", x -> x.house(1, 0, 6), 1, 4);
+        first("mark(1, 0, 3)", x -> x.mark(1, 0, 3), 4, 0);
+        first("mark(2, 0, 1)", x -> x.mark(2, 0, 1), 1, 0);
+        first("shades(1, 0, 0)", x -> x.shades(1, 0, 0), 0, 0);
+        first("sees(0, 0)", x -> x.sees(0, 0), 1 | 2 | 4, 0);
+        first("owes(2, 1)", x -> x.owes(2, 1), 2, 0);
+        first("debt(1)", x -> x.debt(1), 1, -3);
+        first("debt(2)", x -> x.debt(2), 1, 3);
+        first("light()", RoofLent::light, 14, 6);
+        first("ruined()", RoofLent::ruined, 2, 3);
+        first("sways()", RoofLent::sways, Check.NONE, 0);
+        first("best(0, 9)", x -> x.best(0, 9), 1, 7);
+        first("fewest()", RoofLent::fewest, 0, 0);
+        first("relief()", RoofLent::relief, 2, 3);
+        first("settle()", RoofLent::settle, 1, 0);
+        first("rings()", RoofLent::rings, 1 | 2, 1);
     }
 
     /** HOUSES of the ROCK before are not there, nor are they behind what is undone. */
