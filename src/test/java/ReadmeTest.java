@@ -9,7 +9,6 @@ import java.util.Set;
 import java.util.TreeSet;
 import java.util.regex.Matcher;
 import java.util.regex.Pattern;
-import javax.tools.ToolProvider;
 
 /** The blocks of Java in README.md are one program, and each call of it that is followed by an answer answers so. */
 public final class ReadmeTest {
@@ -73,7 +72,7 @@ public final class ReadmeTest {
     private static void run(Path out, String program) throws Exception {
         Path file = Files.writeString(out.resolve("Readme.java"), program);
         String classes = System.getProperty("java.class.path");
-        int failed = ToolProvider.getSystemJavaCompiler().run(null, null, null, "-cp", classes, "-d", out.toString(), file.toString());
+        int failed = new ProcessBuilder("javac", "-cp", classes, "-d", out.toString(), file.toString()).inheritIO().start().waitFor();
         c.due("README.md, faults of its Java", failed, 0);
         if (failed != 0) {
             return;

@@ -7,8 +7,8 @@ public final class RoomTest {
         65536, 1 << 30, Integer.MAX_VALUE - 1, Integer.MAX_VALUE, Integer.MIN_VALUE, Integer.MIN_VALUE + 1, -1, -2, -6, -40};
     private static final int CALLS = 46;
     private static final int CALLS_OF_A_RUN = 460;
-    // The room of a run: 600,000 objects of 16 bytes beside 7.3 million fields and elements, here of 4 bytes each.
-    private static final long MOST_BYTES_OF_A_RUN = 600_000L * 16 + 7_300_000L * 4;
+    // The room of a run: 600,000 objects and arrays, 7.3 million fields and elements, by what such take at most.
+    private static final long MOST_BYTES_OF_A_RUN = 600_000L * 24 + 7_300_000L * 8;
 
     public static void main(String[] args) {
         odd();
